@@ -503,7 +503,7 @@ public final class ZoneController {
         }
     }
 
-    /** A vehicle. Its route are the places next to end - 1 of the row; it is idle if there are none. */
+    /** A vehicle. Its route is what stands in the row from next to end - 1; it is idle if that is nothing. */
     private static final class Vehicle {
         final int[] route = new int[ZONES];
         int next;

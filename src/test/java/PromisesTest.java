@@ -237,6 +237,9 @@ public final class PromisesTest {
         x.step(0);
         check.same("5 where it was", x.addVehicle(0, 5), 2);
         check.state("5 where it is", () -> x.addVehicle(1, 5));
+        check.same("5 what throws brings nothing", x.vehicles(), 3);
+        check.same("5 and stands in no way", x.orders(), 1);
+        order("5 and changes no order", x, 0);
     }
 
     private static void promise6AssignWays() {
@@ -291,6 +294,16 @@ public final class PromisesTest {
         x.setCharger(5, false);
         x.setCharger(15, true);
         check.same("6 a charger that can't be reached does not count", x.assign(0, 5), 3);
+        x.setCharger(15, false);
+        x.cancel(0);
+        x.setCharger(0, true);
+        check.state("6 a charger in zone 0", () -> x.assign(0, 3));
+        check.same("6 to zone 0", x.assign(0, 0), 2);
+        ZoneController last = line(19);
+        last.addVehicle(17, 2);
+        last.setCharger(19, true);
+        check.state("6 a charger in zone 19", () -> last.assign(0, 16));
+        check.same("6 towards zone 19", last.assign(0, 18), 1);
         ZoneController empty = line(2);
         empty.addVehicle(0, 0);
         check.state("6 energy 0", () -> empty.assign(0, 1));
@@ -521,6 +534,15 @@ public final class PromisesTest {
         check.same("11 at the siding", meet.zoneOf(0), 8);
         check.same("11 at the other end", meet.zoneOf(1), 0);
         check.same("11 it waited in front of the siding", meet.waited(1), 1);
+        ZoneController six = new ZoneController();
+        for (int vehicle = 0; vehicle < 6; vehicle++) {
+            six.addLane(vehicle, vehicle + 6);
+            six.addLane(vehicle + 6, vehicle + 12);
+            six.addVehicle(vehicle, 60);
+            six.assign(vehicle, vehicle + 12);
+        }
+        check.same("11 six at once", six.tick(1), 6);
+        check.same("11 six to their ends", six.tick(2), 6);
     }
 
     private static void promise12AddJob() {
@@ -570,6 +592,11 @@ public final class PromisesTest {
         x.tick(10);
         check.same("13 the last one", x.dispatch(), 1);
         check.same("13 by distance now", x.jobVehicle(1), 1);
+        x.tick(10);
+        check.same("13 all done", x.dispatch(), NONE);
+        for (int job = 0; job < 3; job++) {
+            check.same("13 a job that is done is not given", x.jobState(job), DONE);
+        }
     }
 
     private static void promise13DispatchTies() {
@@ -584,6 +611,16 @@ public final class PromisesTest {
         check.same("13 same length: the lowest vehicle", x.jobVehicle(0), 0);
         check.same("13 the next", x.dispatch(), 1);
         check.same("13 its vehicle", x.jobVehicle(1), 1);
+        ZoneController six = star(12);
+        for (int vehicle = 0; vehicle < 6; vehicle++) {
+            six.addVehicle(12 - vehicle, 60 - vehicle);
+            six.addJob(1 + vehicle);
+        }
+        for (int job = 0; job < 6; job++) {
+            check.same("13 six: the lowest job", six.dispatch(), job);
+            check.same("13 six: the lowest vehicle", six.jobVehicle(job), job);
+        }
+        check.same("13 six: no more", six.dispatch(), NONE);
     }
 
     private static void promise13DispatchCanTake() {
@@ -677,6 +714,10 @@ public final class PromisesTest {
         check.same("16 2, 1 and 2", three.regret(1), 1);
         three.addJob(5);
         check.same("16 2, 3 and 2", three.regret(2), 0);
+        for (int vehicle = 3; vehicle < 6; vehicle++) {
+            three.addVehicle(vehicle + 1, 60);
+        }
+        check.same("16 six", three.regret(0), 0);
     }
 
     private static void promise17Vehicles() {
@@ -814,6 +855,10 @@ public final class PromisesTest {
         check.same("24 one behind another", y.orders(), 1);
         y.assign(2, 6);
         check.same("24 and one beside them", y.orders(), 3);
+        check.state("24 a call that throws", () -> y.cancel(1));
+        check.same("24 changes nothing", y.orders(), 3);
+        y.canStep(2);
+        check.same("24 one that asks neither", y.orders(), 3);
     }
 
     private static void promise25Finisher() {
@@ -842,5 +887,20 @@ public final class PromisesTest {
         y.assign(0, 0);
         check.same("25 one order", y.orders(), 1);
         order("25 the first one that works to the end", y, 1, 0);
+        check.state("25 a call that throws", () -> y.addVehicle(3, 60));
+        order("25 changes nothing", y, 1, 0);
+        check.yes("25 behind a step of 1 it could let 0 pass", y.canStep(1));
+        order("25 but it has not stepped", y, 1, 0);
+        ZoneController z = line(7);
+        z.addVehicle(0, 60);
+        z.addVehicle(3, 60);
+        z.assign(1, 4);
+        z.assign(0, 3);
+        check.yes("25 1 may step", z.canStep(1));
+        order("25 it has not", z, 1, 0);
+        check.state("25 a vehicle in front of 1 is refused", () -> z.addVehicle(4, 60));
+        order("25 it did not come", z, 1, 0);
+        z.addVehicle(7, 60);
+        order("25 an idle one is in no order", z, 1, 0);
     }
 }

@@ -176,17 +176,21 @@ public final class RandomRunsTest {
     // ---- looks
 
     private void lookAtOrders() {
-        look("orders()", x::orders, slow::orders);
-        int place = random.nextInt(8) - 1;
+        if (random.nextBoolean()) {
+            look("orders()", x::orders, slow::orders);
+            return;
+        }
+        int place = random.nextInt(random.nextInt(3) == 0 ? 8 : 2) - (seldom() ? 1 : 0);
         look("finisher(" + place + ")", () -> x.finisher(place), () -> slow.finisher(place));
     }
 
     private void lookAtSome() {
-        int what = random.nextInt(8);
+        int what = random.nextInt(10);
         if (what == 0) lookAtVehicle(someVehicle());
         else if (what == 1) lookAtJob(someJob());
         else if (what == 2) lookAtZone(someZone(), someZone());
         else if (what == 3) lookAtRoute(someVehicle(), random.nextInt(8) - 1);
+        else if (what == 4) lookAtOrders();
     }
 
     private void lookAtVehicle(int vehicle) {
